@@ -86,11 +86,11 @@ public final class SandHold {
         if (taped + FED > MOST_BYTES) {
             return NOT_NOW;
         }
-        record(a);
-        record(b);
-        record(c);
-        record(d);
-        record(e);
+        putBytes(a);
+        putBytes(b);
+        putBytes(c);
+        putBytes(d);
+        putBytes(e);
         return taped;
     }
 
@@ -604,7 +604,7 @@ public final class SandHold {
         return i >= 0 && i < IMAGES;
     }
 
-    private void record(int four) {
+    private void putBytes(int four) {
         for (int shift = 24; shift >= 0 && taped < MOST_BYTES; shift -= 8) {
             tape[taped] = (byte) (four >> shift);
             taped++;
@@ -1124,7 +1124,7 @@ public final class SandHold {
             coast.minute++;
             int wetCells = wetAt(land, coast.sand, level);
             coast.fell(wetCells);
-            if (land.washesFrom < land.washesTo) {
+            if (wetCells != 0 && land.washesFrom < land.washesTo) {
                 wash(land, coast, level, wetCells);
             }
             return wetCells;
