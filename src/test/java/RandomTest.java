@@ -94,6 +94,58 @@ public final class RandomTest {
         return s.toString();
     }
 
+    /** A text of one theme, so that its calls have something to tell. */
+    private static String themed(int theme) {
+        int rows = 1 + roll(5);
+        int columns = 1 + roll(5);
+        int cells = rows * columns;
+        StringBuilder s = new StringBuilder("shore rows " + rows + " columns " + columns + ";");
+        for (int i = roll(cells + 1); i > 0; i--) {
+            s.append("sand " + roll(cells) + " " + roll(10) + ";");
+        }
+        if (roll(2) == 0) {
+            s.append("gale " + roll(11) + ";moon " + roll(10) + ";");
+        }
+        if (roll(2) == 0) {
+            s.append("washes:" + pick("height-1", "height+near-1", "if near>1 then height else height-1 end", "row+level", "height+1") + ";");
+        }
+        switch (theme) {
+            case 0:
+                s.append(pick("", "", "tide:minute*2;", "tide:(minute+1)*3-moon;", "tide:if minute<9+moon then 0 else 9 end;"));
+                for (int i = roll(7); i > 0; i--) {
+                    s.append("plot " + roll(cells) + " minutes " + (1 + roll(roll(3) == 0 ? 9 : 3)) + " worth " + roll(10) + ";");
+                }
+                break;
+            case 1:
+                for (int i = roll(7); i > 0; i--) {
+                    s.append("paper " + roll(cells) + " " + roll(cells) + ";");
+                }
+                for (int i = roll(9); i > 0; i--) {
+                    int who = roll(5);
+                    s.append("owes " + who + " " + (who + 1 + roll(4)) % 5 + " " + roll(5) + ";");
+                }
+                break;
+            case 2:
+                s.append(pick("", "tide:3;", "tide:minute+moon-4;", "tide:moon;"));
+                for (int i = 0, c = roll(cells); i < Math.min(6, cells); i++) {
+                    s.append("house " + (c + i) % cells + " owner " + roll(5) + ";");
+                }
+                break;
+            default:
+                s.append(pick("tide:moon;", "tide:minute-moon*2;", "tide:if minute<5 then moon*2-4 else minute-moon end;",
+                    "tide:if moon>4 and minute=7 or moon<2 and minute>60 then 5 else 2 end;", "tide:" + sum(1, false) + ";"));
+                break;
+        }
+        return s.length() > 900 ? themed(theme) : s.toString();
+    }
+
+    private static final int[][] CALLS = {
+        {16, 21, 22, 23, 24, 24, 24, 5, 6, 7, 20, 17},
+        {25, 25, 25, 26, 27, 28, 29},
+        {8, 14, 15, 18, 19, 32, 33, 34, 34, 35, 5, 7, 9, 10},
+        {36, 30, 31, 31, 9, 5, 3},
+    };
+
     private static String spoilt(String text) {
         StringBuilder s = new StringBuilder(text);
         for (int i = 1 + roll(2); i > 0; i--) {
@@ -242,6 +294,16 @@ public final class RandomTest {
                     ask(x, o, roll(41));
                 }
                 compareAll(x, o);
+            }
+        }
+        for (int run = 0; run < runs * 2; run++) {
+            SandHold x = new SandHold();
+            Oracle o = new Oracle();
+            for (int part = 0; part < 4; part++) {
+                tell(x, o, themed(part));
+                for (int i = 0; i < 25; i++) {
+                    ask(x, o, CALLS[part][roll(CALLS[part].length)]);
+                }
             }
         }
         for (int i = 0; i < runs * 40; i++) {
