@@ -41,6 +41,10 @@ public final class ChanceTest {
         x = Check.with("shore rows 1 columns 1;sand 0 1;tide:1;gale 10;house 0 owner 0;");
         chance(x, 0, 1, 0, 1);
         chance(x, 0, 0, 1, 1);
+        x = Check.with("shore rows 1 columns 1;sand 0 1;tide:1;gale 1;house 0 owner 0;");
+        chance(x, 0, 2, 81, 100);
+        x = Check.with("shore rows 1 columns 1;sand 0 1;tide:1;gale 9;house 0 owner 0;");
+        chance(x, 0, 2, 1, 100);
         x = Check.with("shore rows 1 columns 1;sand 0 1;tide:1;gale 0;house 0 owner 0;");
         chance(x, 0, 8, 1, 1);
         x = Check.with("shore rows 2 columns 3;sand 0 1;sand 1 1;sand 2 1;sand 3 1;sand 4 1;sand 5 1;tide:1;gale 5;"

@@ -155,6 +155,30 @@ public final class DeedTest {
         Check.due("undo(2)", x.undo(2), 0);
     }
 
+    private static void eachCallIsUndone() {
+        SandHold x = Check.with("shore rows 2 columns 2;sand 0 4;house 3 owner 1;washes:height+1;moon 2;tide:5;");
+        for (int call = 0; call < 7; call++) {
+            x.raise(1);
+            int[] before = {x.count(2), x.count(3), x.count(4), x.count(5), x.sand(0), x.sand(1), x.sand(2), x.sand(3), x.count(9)};
+            Check.tray(x, 0, 100, 0, 15, 1004);
+            switch (call) {
+                case 0: x.minutes(2); break;
+                case 1: x.raise(0); break;
+                case 2: x.dig(0); break;
+                case 3: x.build(2, 2); break;
+                case 4: x.moon(9); break;
+                case 5: x.perform(0); break;
+                default: x.day(99, 40); break;
+            }
+            Check.due("one more of call " + call, x.count(9), before[8] + 1);
+            Check.due("undone: call " + call, x.undo(1), before[8]);
+            int[] after = {x.count(2), x.count(3), x.count(4), x.count(5), x.sand(0), x.sand(1), x.sand(2), x.sand(3), x.count(9)};
+            for (int i = 0; i < before.length; i++) {
+                Check.due("call " + call + " undone, " + i, after[i], before[i]);
+            }
+        }
+    }
+
     private static void judging() {
         SandHold x = Check.with("shore rows 2 columns 2;house 3 owner 1;washes:height+1;");
         Check.due("MISSING", x.judge(1, 0), -6);
@@ -297,6 +321,7 @@ public final class DeedTest {
         building();
         anotherMoon();
         undoing();
+        eachCallIsUndone();
         judging();
         everyDeed();
         performing();

@@ -1,5 +1,13 @@
 /** Promises 25 to 38: keeping dry, plots, papers, debts, moons looked for, the game by turns. */
 public final class PuzzleTest {
+    private static SandHold heights(int rows, int columns, String digits) {
+        StringBuilder text = new StringBuilder("shore rows " + rows + " columns " + columns + ";");
+        for (int c = 0; c < digits.length(); c++) {
+            text.append("sand " + c + " " + digits.charAt(c) + ";");
+        }
+        return Check.with(text.toString());
+    }
+
     private static void leastRaising() {
         SandHold x = Check.with("shore rows 3 columns 3;sand 4 6;sand 1 2;");
         Check.due("it is dry", x.least(4, 6), 0);
@@ -29,6 +37,13 @@ public final class PuzzleTest {
         Check.due("both sides", turn.least(9, 8), 2);
         Check.due("both sides", turn.least(10, 9), 4);
         Check.due("all of the wall", turn.least(9, 10), 8);
+        Check.due("a flow taken back", heights(3, 3, "184676659").least(7, 8), 3);
+        Check.due("a flow taken back", heights(3, 4, "799888879977").least(10, 9), 2);
+        Check.due("a flow taken back", heights(5, 3, "783563438689678").least(7, 8), 3);
+        SandHold again = heights(4, 4, "9886799449847599");
+        Check.due("a flow taken back", again.least(13, 10), 4);
+        Check.due("no flow is left from the call ahead", again.least(13, 10), 4);
+        Check.due("nor for another cell", again.least(12, 10), 3);
     }
 
     private static void safeLevels() {
@@ -42,11 +57,15 @@ public final class PuzzleTest {
         x.dig(1);
         Check.due("as high as now", x.safe(1), 3);
         Check.due("none is safe behind", x.safe(3), 5);
+        Check.due("safe(0) of a new object", new SandHold().safe(0), 0);
+        Check.due("1 high by the sea", heights(1, 2, "19").safe(0), 1);
     }
 
     private static void worstLevel() {
         Check.due("the first of like ones", Check.with("shore rows 5 columns 1;").worst(), 1);
         Check.due("where most are wetted", Check.with("shore rows 2 columns 3;sand 0 5;sand 1 5;sand 2 5;").worst(), 6);
+        Check.due("wetted there, not in all", heights(1, 5, "01115").worst(), 2);
+        Check.due("less later on", heights(1, 5, "00222").worst(), 3);
         Check.due("at 10", Check.with("shore rows 1 columns 1;sand 0 9;").worst(), 10);
         Check.due("a later one", Check.with("shore rows 1 columns 5;sand 0 1;sand 1 2;sand 2 2;sand 3 4;sand 4 4;").worst(), 3);
     }
@@ -85,6 +104,11 @@ public final class PuzzleTest {
         x.minutes(2);
         Check.due("two gone", x.plan(0), 4);
         Check.due("two gone", x.plan(1), 2);
+        SandHold first = Check.with("shore rows 5 columns 1;plot 1 minutes 1 worth 1;plot 0 minutes 1 worth 1;");
+        Check.due("order() asked first", first.order(0), 0);
+        Check.due("order() asked first", first.order(1), -1);
+        plan("plot 4 minutes 1 worth 1;plot 3 minutes 2 worth 1;plot 3 minutes 1 worth 1;", 3, 7, 1, 2, 0);
+        plan("sand 4 5;plot 4 minutes 2 worth 1;plot 3 minutes 1 worth 1;plot 4 minutes 1 worth 1;", 3, 7, 0, 1, 2);
         Check.due("plan(2)", x.plan(2), -2);
         Check.due("plan(-1)", x.plan(-1), -2);
         Check.due("order(-1)", x.order(-1), -3);
@@ -120,6 +144,17 @@ public final class PuzzleTest {
         Check.due("the least set", x.clique(1), 1 | 2 | 16);
         Check.due("clique(2)", x.clique(2), -2);
         Check.due("clique(-1)", x.clique(-1), -2);
+        SandHold apart = Check.with("shore rows 1 columns 3;paper 1 1;paper 0 0;paper 2 2;");
+        Check.due("one of each: the least set", apart.clique(1), 1);
+        Check.due("one colour", apart.colours(0), 1);
+        Check.due("asked first", Check.with("shore rows 1 columns 1;paper 0 0;paper 0 0;").colours(11), 1);
+        Check.due("asked first", Check.with("shore rows 1 columns 2;paper 0 0;paper 1 1;").colours(11), 0);
+        Check.shore(apart, "shore rows 1 columns 3;paper 1 2;");
+        Check.due("papers of the text ahead are gone", apart.papers(0), 0);
+        Check.due("and one is left", apart.clique(1), 1);
+        Check.due("asked of another text", apart.colours(10), 0);
+        Check.shore(apart, "shore rows 1 columns 3;");
+        Check.due("none", apart.papers(1), 0);
         SandHold none = Check.with("shore rows 1 columns 1;");
         Check.due("no papers", none.colours(0), 0);
         Check.due("no paper 0", none.colours(10), -2);
@@ -189,6 +224,8 @@ public final class PuzzleTest {
         Check.due("eight", x.moons(0), 1023);
         long[] wrong = {-1, -100, 1100, 1101, Long.MIN_VALUE, Long.MAX_VALUE, (1L << 32) + 300};
         for (long v : wrong) {
+            Check.tray(x, 1, v, 300);
+            Check.due("no LEVEL and MINUTES at first: " + v, x.moons(1), -3);
             Check.tray(x, 1, 300, v);
             Check.due("no LEVEL and MINUTES: " + v, x.moons(1), -3);
             Check.due("no LEVEL and MINUTES: " + v, x.look(1), -3);
@@ -223,6 +260,12 @@ public final class PuzzleTest {
         Check.due("moons 0 to 5 are apart in 5, four MINUTES from now on", x.look(0), 4);
         Check.tray(x, 0, 201);
         Check.due("one moon: at once", x.look(0), 0);
+        SandHold v = Check.with("shore rows 1 columns 1;tide:if minute=3 and moon=0 then 1 else if minute=5 and moon<5 then 2 else 0 end end;");
+        Check.tray(v, 0, 0);
+        Check.due("halves in 5, not one in 3", v.look(0), 5);
+        SandHold q = Check.with("shore rows 1 columns 1;tide:if minute=7 and moon=0 then 1 else 0 end;");
+        Check.tray(q, 0, 0);
+        Check.due("moon 0 is one of these", q.look(0), 7);
         SandHold y = Check.with("shore rows 1 columns 1;tide:5;");
         Check.tray(y, 0, 599);
         Check.due("all like: the first", y.look(0), 0);
@@ -265,6 +308,11 @@ public final class PuzzleTest {
         puts("shore rows 2 columns 3;house 1 owner 0;house 3 owner 0;", 1, -1, 5);
         puts("shore rows 2 columns 3;house 2 owner 0;house 3 owner 0;", 0, 0, 5);
         puts("shore rows 2 columns 1;house 1 owner 0;", 1, 0, -1);
+        // 5 alone is worth 3, 3 alone 2, 2 or 1 alone 1: together as heaps in nim
+        puts("shore rows 3 columns 5;house 5 owner 0;house 10 owner 0;house 13 owner 0;", 1, 2, 8, -1);
+        puts("shore rows 2 columns 5;house 5 owner 0;", 1, 2, 8);
+        puts("shore rows 3 columns 5;house 5 owner 0;house 11 owner 0;", 0, 2, 8, 13);
+        puts("shore rows 2 columns 3;house 3 owner 0;", 1, 1, 5);
         SandHold x = Check.with("shore rows 1 columns 3;house 1 owner 0;tide:9;");
         Check.due("no room", x.puts(0), -1);
         x.minutes(1);

@@ -2,6 +2,43 @@
 public final class ShoreTest {
     private static final String HEAD = "shore rows 2 columns 2;";
 
+    private static void oneTextBehindAnother() {
+        SandHold x = new SandHold();
+        String eight = "owes 0 1 1;".repeat(8);
+        Check.due("eight debts", Check.shore(x, HEAD + eight), 9);
+        Check.due("eight again", Check.shore(x, HEAD + eight), 9);
+        Check.due("and none of those ahead", x.balance(1), 8);
+        Check.shore(x, "shore rows 1 columns 5;house 4 owner 0;house 3 owner 0;tide:9;washes:8;gale 5;moon 5;");
+        x.minutes(1);
+        Check.shore(x, "shore rows 5 columns 1;house 4 owner 1;");
+        Check.due("houses anew", x.count(3), 1);
+        Check.due("wet in a column", x.wet(3), 7);
+        x.minutes(1);
+        Check.due("no washes", x.sand(0), 0);
+        Check.shore(x, "shore rows 2 columns 3;sand 2 9;sand 3 0;sand 0 9;sand 1 9;");
+        Check.due("no house", x.count(3), 0);
+        Check.due("sides anew", x.wet(5), 0);
+        Check.due("no moon", x.count(4), 0);
+        Check.due("one that fails leaves nothing behind", Check.shore(x, HEAD + "house 1 owner 1;plot 1 minutes 1 worth 1;paper 0 1;x"), -32);
+        Check.due("the next", Check.shore(x, HEAD), 1);
+        Check.due("no house of it", x.count(2), 0);
+        Check.due("none stands", x.count(3), 0);
+        Check.due("no plot of it", x.count(7), 0);
+        Check.due("no paper of it", x.count(8), 0);
+    }
+
+    private static void readAsFarAsTold() {
+        SandHold x = new SandHold();
+        Check.feed(x, "shore rows 1 columns 12;");
+        Check.due("columns 1, then the end", x.shore(22), -32);
+        Check.due("the end", x.fault(1), 22);
+        Check.feed(x, "shore rows 2 columns 5;moon 1;xx");
+        Check.due("not what is behind", x.shore(30), 2);
+        Check.feed(x, "shore rows 2 columns 5;moons");
+        Check.due("moon, then the end", x.shore(27), -32);
+        Check.due("the end", x.fault(1), 27);
+    }
+
     private static void aNewObject() {
         SandHold x = new SandHold();
         int[] counts = {1, 1, 0, 0, 0, 0, 0, 0, 0, 0, 0, 0};
@@ -133,6 +170,10 @@ public final class ShoreTest {
         fault("shore rows ; columns 1;", 2, 11);
         fault("shores rows 1 columns 1;", 2, 0);
         fault("shor rows 1 columns 1;", 2, 0);
+        fault("xhore rows 1 columns 1;", 2, 0);
+        fault("shorx rows 1 columns 1;", 2, 0);
+        line("zoo 1;", 2, 0);
+        line("aoo 1;", 2, 0);
         line(HEAD, 2, 0);
         line(";", 2, 0);
         line("sea 1;", 2, 0);
@@ -333,6 +374,10 @@ public final class ShoreTest {
         law("if [1=1 or 1=2] and 1=2 then 1 else 2 end", 0, 0, 2);
         law("if not 1=2 and 1=2 then 1 else 2 end", 0, 0, 2);
         law("if not [1=2 and 1=2] then 1 else 2 end", 0, 0, 1);
+        law("if 1<2 and 1=1 then 1 else 2 end", 0, 0, 1);
+        law("if 2>1 and 1=1 then 1 else 2 end", 0, 0, 1);
+        law("if not 1=2 and not 2<1 then 1 else 2 end", 0, 0, 1);
+        law("if not 1<2 or not 2>1 then 1 else 2 end", 0, 0, 2);
         law("if 1=2 or 1=2 or 2=2 then 1 else 2 end", 0, 0, 1);
         law("if 1=1 and 2=2 and 3=4 then 1 else 2 end", 0, 0, 2);
         law("if 1+2=3 then 4 else 5 end + if (1)+2<3 then 1 else 2 end", 0, 0, 6);
@@ -376,6 +421,8 @@ public final class ShoreTest {
         feedPutsTheHighestByteFirst();
         shoreReadsSoManyBytes();
         shoreBeginsAnew();
+        oneTextBehindAnother();
+        readAsFarAsTold();
         faultsOfTokens();
         faultsOfPlaces();
         faultsOfBounds();
