@@ -1,9 +1,14 @@
+import java.io.IOException;
 import java.nio.charset.StandardCharsets;
+import java.nio.file.Files;
+import java.nio.file.Path;
 
 /** What the tests share: answers that are due, and texts put on the tape. */
 final class Check {
     private static int wrong = 0;
     private static int looked = 0;
+    private static String sentence = "";
+    private static final String DOCUMENT = document();
 
     private Check() {
     }
@@ -13,9 +18,25 @@ final class Check {
         if (got != want) {
             wrong++;
             if (wrong <= 40) {
-                System.out.println(call + " answered " + got + ", due is " + want);
+                System.out.println(sentence + call + " answered " + got + ", due is " + want);
             }
         }
+    }
+
+    /** The document with one blank between words, or nothing where it isn't at hand. */
+    private static String document() {
+        Path path = Path.of(System.getProperty("sandhold.document", "../shared/DOC.md"));
+        try {
+            return Files.exists(path) ? Files.readString(path).replaceAll("\\s+", " ") : "";
+        } catch (IOException e) {
+            return "";
+        }
+    }
+
+    /** What is looked at from here on is this sentence, which stands in the document word by word. */
+    static void says(String words) {
+        sentence = "[" + words + "] ";
+        dueTrue("not in the document: it", DOCUMENT.isEmpty() || DOCUMENT.contains(words));
     }
 
     static void dueTrue(String what, boolean holds) {
