@@ -155,6 +155,24 @@ public final class EdgeDeedTest {
         Check.due("minute", washes(9, "minute"), 1);
     }
 
+    private static void namesInBothLaws() {
+        Check.says("In both laws: minute: the MINUTE; moon: the MOON.");
+        Check.due("minute 7", tide("minute"), 7);
+        Check.due("moon 4", tide("moon"), 4);
+        SandHold x = Check.with("shore rows 1 columns 1;moon 9;tide:if minute=0 then moon else 10-minute end;washes:minute+moon*0;");
+        Check.due("MINUTE 0 and MOON 9", x.level(0), 9);
+        x.minutes(2);
+        Check.due("minute 2", x.sand(0), 2);
+        x.moon(0);
+        Check.due("MOON 0", x.level(0), 0);
+        SandHold y = Check.with("shore rows 1 columns 1;moon 9;tide:10;washes:moon;");
+        y.minutes(1);
+        Check.due("moon 9", y.sand(0), 9);
+        y.moon(0);
+        y.minutes(1);
+        Check.due("moon 0", y.sand(0), 0);
+    }
+
     private static void keptInBounds() {
         Check.says("Each + - * is kept from -1,000,000 to 1,000,000;");
         String million = "(999+1)*(999+1)";
@@ -232,6 +250,28 @@ public final class EdgeDeedTest {
         Check.due("dig(25)", x.dig(25), -11);
         Check.due("the most", x.dig(Integer.MAX_VALUE), -11);
         Check.due("two were done", x.count(9), 2);
+    }
+
+    private static void oneMoreOneLess() {
+        Check.says("To RAISE a CELL: it is 1 more HIGH. To DIG it: 1 less. To BUILD: one more house, of an OWNER, in a CELL where none stands. Another MOON.");
+        SandHold x = Check.with("shore rows 1 columns 3;sand 1 0;house 2 owner 0;");
+        for (int high = 1; high <= 9; high++) {
+            Check.due("1 more", x.raise(1), high);
+        }
+        Check.due("no more", x.raise(1), -12);
+        for (int high = 8; high >= 0; high--) {
+            Check.due("1 less", x.dig(1), high);
+        }
+        Check.due("no less", x.dig(1), -12);
+        Check.due("those beside it stay", x.sand(0) + x.sand(2), 0);
+        Check.due("a house is no matter", x.raise(2), 1);
+        Check.due("it stands", x.count(3), 1);
+        Check.due("one more house", x.build(1, 4), 1);
+        Check.due("a house stands there", x.build(2, 0), -13);
+        for (int n = 9; n >= 0; n--) {
+            Check.due("another MOON", x.moon(n), n == 9 ? 0 : n + 1);
+        }
+        Check.due("no MINUTE goes by", x.count(5), 0);
     }
 
     private static void buildSix() {
@@ -526,6 +566,28 @@ public final class EdgeDeedTest {
         }
     }
 
+    private static void dayDraws() {
+        Check.says(": so many times (1 to 40): DRAW modulo 6: 0, 1 a MINUTE; 2 CELL DRAW modulo 25 is RAISED; 3 CELL DRAW modulo 25 is DUG; 4 in CELL DRAW modulo 25 OWNER DRAW modulo 5 BUILDS; 5 MOON DRAW modulo 10;");
+        int[] kinds = new int[6];
+        for (int seed = 0; seed < 60; seed++) {
+            SandHold a = Check.with("shore rows 5 columns 5;sand 0 9;sand 1 0;");
+            SandHold b = Check.with("shore rows 5 columns 5;sand 0 9;sand 1 0;");
+            Check.due("once by " + seed, a.day(seed, 1), byHand(b, seed, 1));
+            for (int what = 2; what < 7; what++) {
+                Check.due("count(" + what + ") by " + seed, a.count(what), b.count(what));
+            }
+            for (int c = 0; c < 25; c++) {
+                Check.due("sand(" + c + ") by " + seed, a.sand(c), b.sand(c));
+            }
+            Check.due("CELL by " + seed, a.house(0, 0), b.house(0, 0));
+            Check.due("OWNER by " + seed, a.house(0, 1), b.house(0, 1));
+            kinds[(seed * 1103515245 + 12345 >>> 16) % 6]++;
+        }
+        for (int kind = 0; kind < 6; kind++) {
+            Check.dueTrue("kind " + kind + " was drawn", kinds[kind] > 0);
+        }
+    }
+
     private static int byHand(SandHold x, int seed, int times) {
         long v = seed & 0xffffffffL;
         int could = 0;
@@ -585,11 +647,13 @@ public final class EdgeDeedTest {
         housesFall();
         sandByALaw();
         namesInLaws();
+        namesInBothLaws();
         keptInBounds();
         ifTellsOne();
         minutesOneTo99();
         raiseToNine();
         digToNone();
+        oneMoreOneLess();
         buildSix();
         moonZeroToNine();
         undoOneToTen();
@@ -600,6 +664,7 @@ public final class EdgeDeedTest {
         performed();
         dayTimes();
         daySeeds();
+        dayDraws();
         dayGoesOn();
         Check.end("EdgeDeedTest");
     }

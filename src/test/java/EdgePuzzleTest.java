@@ -10,6 +10,18 @@ public final class EdgePuzzleTest {
         return Check.with(text.toString());
     }
 
+    private static void dryIsNotWet() {
+        Check.says("DRY at a LEVEL: a CELL that isn't WET at it, all being as HIGH as now.");
+        SandHold x = heights(2, 3, "535007");
+        for (int c = 0; c < 6; c++) {
+            for (int level = 0; level <= 10; level++) {
+                boolean dry = (x.wet(level) >> c & 1) == 0;
+                Check.dueTrue("least(" + c + ", " + level + ") is 0 if it is DRY alone", x.least(c, level) == 0 == dry);
+                Check.dueTrue("safe(" + c + ") and " + level, level <= x.safe(c) == dry);
+            }
+        }
+    }
+
     private static void dryAtALevel() {
         Check.says("KEEPING a CELL DRY at a LEVEL: CELLS are RAISED (it too, and above 9, if it must be) so that it is DRY: the least RAISING in all (0, if it is).");
         for (int high = 0; high <= 9; high++) {
@@ -281,6 +293,27 @@ public final class EdgePuzzleTest {
         payments("owes 0 3 2;owes 1 4 3;owes 2 4 4;", 3);
     }
 
+    private static void paymentsOfADebtor() {
+        Check.says("SETTLING: how many payments.");
+        payments("", 0);
+        payments("owes 4 3 99;", 1);
+        payments("owes 0 1 99;owes 1 2 99;owes 2 3 99;owes 3 4 99;owes 4 0 99;", 0);
+        payments("owes 0 1 7;owes 2 1 7;owes 3 1 7;owes 4 1 7;", 4);
+        SandHold x = Check.with("shore rows 1 columns 1;owes 0 1 7;");
+        x.minutes(9);
+        Check.due("deeds are no matter", x.payments(), 1);
+    }
+
+    private static void moonsAsBits() {
+        Check.says("LOOKED: MOONS, as bits.");
+        for (int moon = 0; moon < 10; moon++) {
+            SandHold x = Check.with("shore rows 1 columns 1;tide:if moon=" + moon + " then 2 else 1 end;");
+            moons(x, 1 << moon, 200);
+            moons(x, 1023 & ~(1 << moon), 100);
+            moons(x, 0, 300);
+        }
+    }
+
     private static void lookedNumbers() {
         Check.says("-2: the TRAY; -6; -4: not 1 to 8 numbers; -3: one is no LEVEL (0 to 10) and 0 to 99 MINUTES.");
         SandHold x = Check.with("shore rows 1 columns 1;tide:5;");
@@ -440,6 +473,7 @@ public final class EdgePuzzleTest {
     }
 
     public static void main(String[] args) {
+        dryIsNotWet();
         dryAtALevel();
         leastRefused();
         safeLevel();
@@ -456,6 +490,8 @@ public final class EdgePuzzleTest {
         papersOver();
         balances();
         fewestPayments();
+        paymentsOfADebtor();
+        moonsAsBits();
         lookedNumbers();
         moonsOfMinutes();
         lookNext();

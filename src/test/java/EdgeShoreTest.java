@@ -30,6 +30,14 @@ public final class EdgeShoreTest {
         Check.due("the only CELL is taken", x.build(0, 4), 0);
     }
 
+    private static void none() {
+        Check.says("The constants: `NONE = -1`: There is none.");
+        Check.due("NONE", SandHold.NONE, -1);
+        Check.due("fault(1)", new SandHold().fault(1), SandHold.NONE);
+        Check.due("last()", new SandHold().last(), SandHold.NONE);
+        Check.due("count(12)", new SandHold().count(12), SandHold.NONE);
+    }
+
     private static void oneObjectIsNotAnother() {
         Check.says("`SandHold()`: 1 CELL, 0 HIGH, no houses.");
         SandHold x = Check.with(HEAD + "house 0 owner 0;moon 5;");
@@ -277,6 +285,7 @@ public final class EdgeShoreTest {
 
     public static void main(String[] args) {
         aNewObject();
+        none();
         oneObjectIsNotAnother();
         used512Times();
         feedTwenty();
