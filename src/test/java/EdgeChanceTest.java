@@ -38,6 +38,13 @@ public final class EdgeChanceTest {
         // 1 more than the tide of that MINUTE, not than the LEVEL ahead of it
         SandHold z = Check.with("shore rows 1 columns 1;sand 0 2;tide:1;gale 5;house 0 owner 0;");
         chance(z, 0, 8, 1, 1);
+        // a gale that doesn't reach the house takes nothing of the chance
+        for (int gale = 0; gale <= 10; gale++) {
+            chance(Check.with("shore rows 1 columns 1;sand 0 3;tide:1;gale " + gale + ";house 0 owner 0;"), 0, 8, 1, 1);
+        }
+        // what the sea does without the gale is no matter with it: 9 washed up would keep the house
+        chance(Check.with("shore rows 2 columns 1;sand 0 0;sand 1 1;house 1 owner 0;tide:1;gale 5;washes:9;"), 0, 1, 1, 2);
+        chance(Check.with("shore rows 2 columns 1;sand 0 0;sand 1 1;house 1 owner 0;tide:1;gale 5;washes:9;"), 0, 8, 1, 2);
         // without a gale the LEVEL of other calls is the tide's
         SandHold w = atTheBrim(10, 5);
         Check.due("level()", w.level(1), 5);

@@ -171,6 +171,9 @@ public final class EdgeDeedTest {
         y.moon(0);
         y.minutes(1);
         Check.due("moon 0", y.sand(0), 0);
+        SandHold z = Check.with("shore rows 1 columns 1;moon 3;washes:minute*2+moon;");
+        z.minutes(1);
+        Check.due("by the plain tide, too", z.sand(0), 5);
     }
 
     private static void keptInBounds() {
@@ -357,6 +360,7 @@ public final class EdgeDeedTest {
         Check.due("undone ones can't be done by undoing", x.undo(1), 0);
         Check.due("MOON", x.count(4), 5);
         wholeCalls();
+        eachCallAlone();
         refusedOnesAreNone();
     }
 
@@ -381,6 +385,32 @@ public final class EdgeDeedTest {
         Check.due("houses", x.count(2), 1);
         Check.due("MOON", x.count(4), 3);
         Check.due("MINUTE", x.count(5), 0);
+    }
+
+    private static void eachCallAlone() {
+        for (int call = 0; call < 7; call++) {
+            SandHold x = Check.with("shore rows 2 columns 2;sand 0 4;house 3 owner 1;moon 2;tide:5;washes:height+1;");
+            x.raise(2);
+            x.moon(3);
+            x.undo(2);
+            Check.tray(x, 0, 100, 0, 15, 1004);
+            switch (call) {
+                case 0: x.minutes(2); break;
+                case 1: x.raise(0); break;
+                case 2: x.dig(0); break;
+                case 3: x.build(2, 2); break;
+                case 4: x.moon(9); break;
+                case 5: x.perform(0); break;
+                default: x.day(99, 40); break;
+            }
+            Check.due("call " + call, x.undo(1), 0);
+            int[] counts = {2, 2, 1, 1, 2, 0, 6, 0, 0, 0, 0, 6};
+            for (int what = 0; what < counts.length; what++) {
+                Check.due("call " + call + " undone: count(" + what + ")", x.count(what), counts[what]);
+            }
+            Check.due("call " + call + " undone: sand(0)", x.sand(0), 4);
+            Check.due("call " + call + " undone: sand(2)", x.sand(2), 1);
+        }
     }
 
     private static void refusedOnesAreNone() {

@@ -84,6 +84,9 @@ public final class EdgePuzzleTest {
         Check.due("three later", heights(1, 5, "99922").worst(), 10);
         Check.due("a hollow behind a wall falls with it", heights(3, 1, "700").worst(), 8);
         Check.due("a new object", new SandHold().worst(), 1);
+        Check.due("1 is one of them", heights(1, 5, "00001").worst(), 1);
+        Check.due("10 is one of them", heights(1, 5, "88999").worst(), 10);
+        Check.due("one, two, three", heights(2, 3, "011222").worst(), 3);
     }
 
     private static void plan(String plots, int worth, int set, int... order) {
@@ -291,6 +294,7 @@ public final class EdgePuzzleTest {
         payments("owes 0 1 1;owes 0 2 2;owes 3 4 5;", 3);
         payments("owes 0 3 2;owes 1 3 2;owes 1 4 1;owes 2 4 5;", 4);
         payments("owes 0 3 2;owes 1 4 3;owes 2 4 4;", 3);
+        payments("owes 0 1 3;owes 2 3 1;owes 2 4 2;", 3);
     }
 
     private static void paymentsOfADebtor() {

@@ -124,8 +124,9 @@ public final class EdgeShoreTest {
         Check.due("nothing to undo", x.undo(1), -3);
         Check.due("no debts", x.balance(0), 0);
         Check.due("no paper", x.papers(0), 0);
-        Check.due("no gale", x.chance(0, 1, 1), 1);
         Check.due("no washes", x.worn(0, 3), 0);
+        x.raise(2);
+        Check.due("no gale", x.chance(0, 1, 0), 1);
     }
 
     private static void shoreOfNoBytes() {

@@ -53,6 +53,38 @@ public final class EdgeTextTest {
         right(lines, 126);
     }
 
+    private static void oneTextBehindAnother() {
+        Check.says("THE SHORE is a TEXT of at most 900 bytes");
+        SandHold x = new SandHold();
+        for (int i = 0; i < 5; i++) {
+            Check.due("a law that fills all, again", Check.shore(x, HEAD + "tide:437" + "-1".repeat(434) + ";"), 2);
+            Check.due("its level", x.level(0), 3);
+            Check.due("eight debts again", Check.shore(x, HEAD + "owes 0 1 1;".repeat(8)), 9);
+            Check.due("those ahead are gone", x.balance(1), 8);
+            Check.due("six houses again", Check.shore(x, WIDE + houses(6)), 7);
+            Check.due("and no seventh", Check.shore(x, WIDE + houses(6) + "house"), -34);
+            Check.due("six plots and papers", Check.shore(x, WIDE + "plot 0 minutes 1 worth 1;".repeat(6) + "paper 0 0;".repeat(6)), 13);
+        }
+        Check.shore(x, "shore rows 5 columns 1;house 1 owner 0;gale 10;");
+        Check.due("one column", x.wet(2), 3);
+        Check.shore(x, HEAD + "sand 0 9;sand 1 0;sand 2 0;sand 3 0;");
+        Check.due("two columns", x.wet(1), 14);
+        Check.due("no house stands", x.count(3), 0);
+        Check.due("none is last", x.last(), -1);
+        x.build(0, 0);
+        Check.shore(x, HEAD + "tide:1;sand 0 1;house 0 owner 0;");
+        Check.due("no gale", x.chance(0, 1, 0), 1);
+        Check.due("a fault ahead", Check.shore(x, HEAD + "house 1 owner 0;moon 9;tide:5;washes:5;gale 5;sand 1 5;plot 1 minutes 1 worth 1;paper 0 0;owes 0 1 1;?"), -31);
+        Check.due("leaves nothing to the next", Check.shore(x, HEAD), 1);
+        int[] counts = {2, 2, 0, 0, 0, 0, 2, 0, 0, 0, 0, 1};
+        for (int what = 0; what < counts.length; what++) {
+            Check.due("count(" + what + ")", x.count(what), counts[what]);
+        }
+        Check.due("the plain tide", x.level(9), 9);
+        Check.due("no washes", x.worn(0, 9), 0);
+        Check.due("no debts", x.balance(1), 0);
+    }
+
     private static void withoutAText() {
         Check.says("(without one: 1 row, 1 column, MOON 0, GALE 0)");
         SandHold x = new SandHold();
@@ -92,6 +124,20 @@ public final class EdgeTextTest {
         at(2, "shore rows 2 columns 2 @: moon 1;");
     }
 
+    private static boolean isWord(String token) {
+        return token.charAt(0) >= 'a' && token.charAt(0) <= 'z';
+    }
+
+    /** A word that is almost the one that can stand there. */
+    private static void almost(String ahead, String word, String behind) {
+        String rest = word.substring(1);
+        String most = word.substring(0, word.length() - 1);
+        at(2, ahead + "@" + (char) (word.charAt(0) == 'z' ? 'y' : word.charAt(0) + 1) + rest + " " + behind);
+        at(2, ahead + "@" + most + "z " + behind);
+        at(2, ahead + "@" + word + "z " + behind);
+        at(2, ahead + "@" + most + " " + behind);
+    }
+
     /** Each token of a line once gone with all behind it, once another in its place. */
     private static void shape(String line) {
         String[] tokens = line.split(" ");
@@ -110,6 +156,9 @@ public final class EdgeTextTest {
             at(1, ahead + "@1000 " + behind);
             at(1, ahead + "@? " + behind);
             at(1, ahead + "@A " + behind);
+            if (isWord(tokens[i])) {
+                almost(ahead, tokens[i], behind);
+            }
             ahead += tokens[i] + " ";
         }
         right(ahead, 2);
@@ -209,6 +258,11 @@ public final class EdgeTextTest {
         tellsFalse("2<1");
         tellsTrue("2>1");
         tellsFalse("1=2");
+        tellsFalse("not 1<2");
+        tellsFalse("not 2>1");
+        tellsFalse("not 1=1");
+        tellsTrue("1<2 and 2>1 and 1=1");
+        tellsTrue("not 2<1 and not 1>2 and not 1=2");
         at(2, HEAD + "tide:if 1=1 or @then 1 else 2 end;");
         at(2, HEAD + "tide:if 1=1 and @or 1=1 then 1 else 2 end;");
         at(2, HEAD + "tide:if not @then 1 else 2 end;");
@@ -521,6 +575,7 @@ public final class EdgeTextTest {
 
     public static void main(String[] args) {
         nineHundredBytes();
+        oneTextBehindAnother();
         withoutAText();
         noLineAndMany();
         shapesOfLines();

@@ -110,7 +110,7 @@ public final class EdgeTrayTest {
         Check.due("nothing to undo", x.count(9), 0);
         // a cell 0 high is a MINUTE as a DEED, one 9 high is none
         SandHold y = Check.with("shore rows 1 columns 4;sand 2 9;tide:0;");
-        Check.tray(y, 0, 10, 10, 10, 10, 300);
+        Check.tray(y, 0, 300, 300, 300, 300, 300);
         Check.due("four", y.lists(0), 4);
         Check.due("9 came to place 2", y.judge(0, 0), 2);
         y.dig(2);
