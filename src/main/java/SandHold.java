@@ -36,7 +36,6 @@ public final class SandHold {
     private static final int MOST_NUMBERS = 40;
     private static final int IMAGES = 2;
 
-    private final byte[] tape;
     private int taped;
     private final Reader reader;
     private final Land land;
@@ -56,8 +55,7 @@ public final class SandHold {
     private int drawn;
 
     public SandHold() {
-        tape = new byte[MOST_BYTES];
-        reader = new Reader(tape);
+        reader = new Reader();
         land = new Land();
         now = new Coast();
         ahead = new Coast();
@@ -606,7 +604,7 @@ public final class SandHold {
 
     private void putBytes(int four) {
         for (int shift = 24; shift >= 0 && taped < MOST_BYTES; shift -= 8) {
-            tape[taped] = (byte) (four >> shift);
+            reader.tape[taped] = (byte) (four >> shift);
             taped++;
         }
     }
@@ -1203,7 +1201,7 @@ public final class SandHold {
         final Coast coast;
         int fault;
         int place;
-        private final byte[] text;
+        final byte[] tape;
         private int length;
         private int from;
         private int to;
@@ -1211,15 +1209,15 @@ public final class SandHold {
         private int debts;
         private boolean inWashes;
 
-        Reader(byte[] bytes) {
-            text = bytes;
+        Reader() {
+            tape = new byte[MOST_BYTES];
             place = NONE;
             land = new Land();
             coast = new Coast();
         }
 
         boolean reads(int n) {
-            length = Math.max(0, Math.min(n, text.length));
+            length = Math.max(0, Math.min(n, tape.length));
             to = 0;
             fault = 0;
             place = NONE;
@@ -1238,26 +1236,26 @@ public final class SandHold {
 
         private void step() {
             from = to;
-            while (from < length && (text[from] == 10 || text[from] == 32)) {
+            while (from < length && (tape[from] == 10 || tape[from] == 32)) {
                 from++;
             }
             to = from;
             if (from >= length) {
                 kind = END;
-            } else if (text[from] >= 'a' && text[from] <= 'z') {
+            } else if (tape[from] >= 'a' && tape[from] <= 'z') {
                 pass('a', 'z');
                 kind = WORD;
-            } else if (text[from] >= '0' && text[from] <= '9') {
+            } else if (tape[from] >= '0' && tape[from] <= '9') {
                 pass('0', '9');
                 kind = to - from <= MOST_DIGITS ? NUMBER : BAD;
             } else {
                 to++;
-                kind = SIGNS.indexOf((char) (text[from] & 255)) >= 0 ? SIGN : BAD;
+                kind = SIGNS.indexOf((char) (tape[from] & 255)) >= 0 ? SIGN : BAD;
             }
         }
 
         private void pass(char low, char high) {
-            while (to < length && text[to] >= low && text[to] <= high) {
+            while (to < length && tape[to] >= low && tape[to] <= high) {
                 to++;
             }
         }
@@ -1265,7 +1263,7 @@ public final class SandHold {
         private int numberHere() {
             int value = 0;
             for (int i = from; i < to && i < length; i++) {
-                value = value * 10 + text[i] - '0';
+                value = value * 10 + tape[i] - '0';
             }
             return value;
         }
@@ -1282,7 +1280,7 @@ public final class SandHold {
                 return false;
             }
             for (int i = 0; i < word.length() && from + i < length; i++) {
-                if (text[from + i] != word.charAt(i)) {
+                if (tape[from + i] != word.charAt(i)) {
                     return false;
                 }
             }
@@ -1290,7 +1288,7 @@ public final class SandHold {
         }
 
         private boolean atSign(char sign) {
-            return kind == SIGN && from < length && text[from] == sign;
+            return kind == SIGN && from < length && tape[from] == sign;
         }
 
         private void expectWord(String word) {

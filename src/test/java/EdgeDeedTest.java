@@ -392,7 +392,6 @@ public final class EdgeDeedTest {
             SandHold x = Check.with("shore rows 2 columns 2;sand 0 4;house 3 owner 1;moon 2;tide:5;washes:height+1;");
             x.raise(2);
             x.moon(3);
-            x.undo(2);
             Check.tray(x, 0, 100, 0, 15, 1004);
             switch (call) {
                 case 0: x.minutes(2); break;
@@ -403,13 +402,13 @@ public final class EdgeDeedTest {
                 case 5: x.perform(0); break;
                 default: x.day(99, 40); break;
             }
-            Check.due("call " + call, x.undo(1), 0);
-            int[] counts = {2, 2, 1, 1, 2, 0, 6, 0, 0, 0, 0, 6};
+            Check.due("call " + call, x.undo(1), 2);
+            int[] counts = {2, 2, 1, 1, 3, 0, 7, 0, 0, 2, 0, 6};
             for (int what = 0; what < counts.length; what++) {
                 Check.due("call " + call + " undone: count(" + what + ")", x.count(what), counts[what]);
             }
             Check.due("call " + call + " undone: sand(0)", x.sand(0), 4);
-            Check.due("call " + call + " undone: sand(2)", x.sand(2), 1);
+            Check.due("call " + call + " undone: sand(2)", x.sand(2), 2);
         }
     }
 
