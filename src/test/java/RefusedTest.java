@@ -10,6 +10,12 @@ public final class RefusedTest {
 
     /** Images, trays, undoing, tape: some of each, tray 3 and image 0 missing. */
     private static SandHold rich() {
+        SandHold x = richWithoutTape();
+        Check.feed(x, "shore rows 3 columns 1;moon 6;");
+        return x;
+    }
+
+    private static SandHold richWithoutTape() {
         SandHold x = Check.with(RICH);
         x.image(1);
         tray(x, 0, 3, 0, 102, 15, 1054, 203, 300, 0);
@@ -19,7 +25,6 @@ public final class RefusedTest {
         x.build(5, 2);
         x.minutes(2);
         x.moon(4);
-        Check.feed(x, "shore rows 3 columns 1;moon 6;");
         return x;
     }
 
@@ -272,6 +277,32 @@ public final class RefusedTest {
         refused("owner(0)", -1, x -> x.owner(0));
     }
 
+    /** A text with a fault is read, so fault() tells of it and the tape is empty; all else stays. */
+    private static void faultyTexts() {
+        Check.says("all stays with a FAULT).");
+        String[] texts = {"shore rows 1 columns 1;moon 1;house 0 owner 0;?", "shore rows 1 columns 1;tide:1;washes:2;zzz", "shore rows 1 columns 1;gale 9;moon 10;",
+            "shore rows 1 columns 1;plot 0 minutes 1 worth 1;" + "paper 0 0;".repeat(7)};
+        List<Long> due = trace(richWithoutTape());
+        for (int kind = 1; kind <= 4; kind++) {
+            SandHold x = richWithoutTape();
+            Check.due("kind " + kind, Check.shore(x, texts[kind - 1]), -30 - kind);
+            List<Long> got = trace(x);
+            Check.due("fault(0)", got.get(12), kind);
+            Check.due("fault(1)", got.get(13), placeOf(texts[kind - 1]));
+            for (int i = 0; i < due.size(); i++) {
+                if (i != 12 && i != 13) {
+                    Check.due("behind kind " + kind + ", " + i, got.get(i), due.get(i));
+                }
+            }
+        }
+    }
+
+    private static int placeOf(String text) {
+        SandHold x = new SandHold();
+        Check.shore(x, text);
+        return x.fault(1);
+    }
+
     private static void codesInOrder() {
         Check.says("(Of several that which the call tells first; all these ahead of NONE.) balance(): -99000002.");
         refused("judge(4, 4)", -2, x -> x.judge(4, 4));
@@ -358,6 +389,7 @@ public final class RefusedTest {
         refusedWhenNew();
         from(RefusedTest::rich);
         codesInOrder();
+        faultyTexts();
         Check.says("GOING ON: MINUTES from now on, nothing else being done");
         from(RefusedTest::rich);
         askingChangesNothing();
