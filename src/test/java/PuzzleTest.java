@@ -40,6 +40,13 @@ public final class PuzzleTest {
         Check.due("a flow taken back", heights(3, 3, "184676659").least(7, 8), 3);
         Check.due("a flow taken back", heights(3, 4, "799888879977").least(10, 9), 2);
         Check.due("a flow taken back", heights(5, 3, "783563438689678").least(7, 8), 3);
+        Check.due("a flow taken back through a cell", heights(4, 4, "8976889548466684").least(13, 9), 3);
+        Check.due("a flow taken back through a cell", heights(5, 5, "9683697373359469766473935").least(23, 8), 4);
+        Check.due("a flow taken back through a cell", heights(5, 5, "8877797988988987887877799").least(22, 9), 2);
+        Check.due("a flow taken back through a cell", heights(5, 4, "69566494654574967594").least(13, 8), 4);
+        Check.due("a flow taken back, and taken again", heights(5, 4, "49945593055552922959").least(13, 8), 6);
+        Check.due("a flow taken back, and taken again", heights(5, 4, "29289952379257986399").least(17, 10), 5);
+        Check.due("a flow taken back, and taken again", heights(5, 5, "9993969598869795788423964").least(21, 10), 5);
         SandHold again = heights(4, 4, "9886799449847599");
         Check.due("a flow taken back", again.least(13, 10), 4);
         Check.due("no flow is left from the call ahead", again.least(13, 10), 4);
