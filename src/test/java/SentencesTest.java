@@ -50,15 +50,16 @@ public final class SentencesTest {
     public static void main(String[] args) throws IOException {
         Path document = Path.of(System.getProperty("sandhold.document", "../shared/DOC.md"));
         Path tests = Path.of(System.getProperty("sandhold.tests", "src/test/java"));
-        if (Files.exists(document)) {
-            String text = struck(Files.readString(document).replaceAll("\\s+", " "), quotes(tests));
-            String left = unquoted(section(text, "## Terms", "Ahead of the calls"));
-            Check.dueTrue("no test quotes of the terms: " + left, left.isEmpty());
-            for (int promise = 1; promise <= 46; promise++) {
-                String next = promise < 46 ? "## Promise " + (promise + 1) + ":" : "## Not promised";
-                left = unquoted(section(text, "## Promise " + promise + ":", next).replaceFirst(" [\\w ]+", ""));
-                Check.dueTrue("no test quotes of promise " + promise + ": " + left, left.isEmpty());
-            }
+        String text = struck(Files.readString(document).replaceAll("\\s+", " "), quotes(tests));
+        // its first sentence tells in short what the others tell; FaceTest has the face and what stands ahead of the calls
+        String left = unquoted(section(text, "images to go on from. ==== 1.", "what later calls answer is free."));
+        Check.dueTrue("no test quotes of what it is: " + left, left.isEmpty());
+        left = unquoted(section(text, "## Terms", "Ahead of the calls"));
+        Check.dueTrue("no test quotes of the terms: " + left, left.isEmpty());
+        for (int promise = 1; promise <= 46; promise++) {
+            String next = promise < 46 ? "## Promise " + (promise + 1) + ":" : "## Not promised";
+            left = unquoted(section(text, "## Promise " + promise + ":", next).replaceFirst(" [\\w ]+", ""));
+            Check.dueTrue("no test quotes of promise " + promise + ": " + left, left.isEmpty());
         }
         Check.end("SentencesTest");
     }
