@@ -47,6 +47,8 @@ public final class PuzzleTest {
         Check.due("a flow taken back, and taken again", heights(5, 4, "49945593055552922959").least(13, 8), 6);
         Check.due("a flow taken back, and taken again", heights(5, 4, "29289952379257986399").least(17, 10), 5);
         Check.due("a flow taken back, and taken again", heights(5, 5, "9993969598869795788423964").least(21, 10), 5);
+        Check.due("a flow taken back through a cell, and another through it", heights(5, 5, "9690365816168878009961819").least(17, 10), 10);
+        Check.due("a flow taken back through a cell, and another through it", heights(5, 5, "8893165732676634819940379").least(17, 9), 7);
         SandHold again = heights(4, 4, "9886799449847599");
         Check.due("a flow taken back", again.least(13, 10), 4);
         Check.due("no flow is left from the call ahead", again.least(13, 10), 4);
