@@ -295,6 +295,20 @@ public final class EdgePuzzleTest {
         payments("owes 0 3 2;owes 1 3 2;owes 1 4 1;owes 2 4 5;", 4);
         payments("owes 0 3 2;owes 1 4 3;owes 2 4 4;", 3);
         payments("owes 0 1 3;owes 2 3 1;owes 2 4 2;", 3);
+        // two debts of 1: none is left if one goes back, one if both are of the same two or what comes to one goes on
+        for (int a = 0; a < 5; a++) {
+            for (int b = 0; b < 5; b++) {
+                for (int c = 0; c < 5; c++) {
+                    for (int d = 0; d < 5; d++) {
+                        if (a != b && c != d) {
+                            boolean back = a == d && b == c;
+                            boolean one = a == c && b == d || a == d || b == c;
+                            payments("owes " + a + " " + b + " 1;owes " + c + " " + d + " 1;", back ? 0 : one ? 1 : 2);
+                        }
+                    }
+                }
+            }
+        }
     }
 
     private static void paymentsOfADebtor() {

@@ -65,6 +65,12 @@ public final class EdgeTextTest {
             Check.due("and no seventh", Check.shore(x, WIDE + houses(6) + "house"), -34);
             Check.due("six plots and papers", Check.shore(x, WIDE + "plot 0 minutes 1 worth 1;".repeat(6) + "paper 0 0;".repeat(6)), 13);
         }
+        Check.due("two papers behind six", Check.shore(x, HEAD + "paper 0 0;paper 0 1;"), 3);
+        Check.due("how many colours", x.colours(0), 2);
+        Check.due("the first", x.colours(10), 0);
+        Check.due("the second", x.colours(11), 1);
+        Check.due("no third", x.colours(12), -2);
+        Check.due("both overlap", x.clique(1), 3);
         Check.shore(x, "shore rows 5 columns 1;house 1 owner 0;gale 10;");
         Check.due("one column", x.wet(2), 3);
         Check.shore(x, HEAD + "sand 0 9;sand 1 0;sand 2 0;sand 3 0;");
@@ -465,6 +471,10 @@ public final class EdgeTextTest {
         SandHold x = right(HEAD + "tide:1;washes:9;washes:4;", 4);
         x.minutes(1);
         Check.due("a later washes", x.sand(0), 4);
+        Check.due("the last of very many", right(HEAD + "tide:1;".repeat(120) + "tide:7;", 122).level(1), 7);
+        SandHold y = right(HEAD + "tide:5;".repeat(121) + "washes:4;", 123);
+        y.minutes(1);
+        Check.due("washes behind very many", y.sand(0), 4);
     }
 
     private static void everyByte() {
